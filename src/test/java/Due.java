@@ -7,16 +7,20 @@ final class Due {
     }
 
     static void is(String what, int got, int want) {
-        checked++;
-        if (got != want) {
-            wrong++;
-            System.out.println(what + " answered " + got + ", due is " + want);
-        }
+        note(what, got == want, got, want);
     }
 
     static void is(String what, boolean got, boolean want) {
+        note(what, got == want, got, want);
+    }
+
+    static void is(String what, String got, String want) {
+        note(what, got.equals(want), got, want);
+    }
+
+    private static void note(String what, boolean right, Object got, Object want) {
         checked++;
-        if (got != want) {
+        if (!right) {
             wrong++;
             System.out.println(what + " answered " + got + ", due is " + want);
         }

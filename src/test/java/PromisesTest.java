@@ -1,10 +1,5 @@
 /** One method for each promise of the document, with answers worked out by hand. */
 public final class PromisesTest {
-    private static final int[] NOT_0_TO_7 = {-1, 8, 31, 32, 33, 39, -32, Integer.MIN_VALUE, Integer.MAX_VALUE};
-    private static final int[] NOT_0_TO_3 = {-1, 4, 5, 32, 35, -32, Integer.MIN_VALUE, Integer.MAX_VALUE};
-    private static final int[] NOT_1_TO_50 = {0, -1, 51, 52, 306, Integer.MIN_VALUE, Integer.MAX_VALUE};
-    private static final int[] NOT_1_TO_255 = {0, -1, 256, 257, 511, Integer.MIN_VALUE, Integer.MAX_VALUE};
-
     private PromisesTest() {
     }
 
@@ -32,20 +27,6 @@ public final class PromisesTest {
         Due.end("PromisesTest");
     }
 
-    /** An auction with these bids, each given as bundle, bidder, amount. */
-    private static PackageAuction with(int... bids) {
-        PackageAuction x = new PackageAuction();
-        for (int k = 0; k < bids.length; k += 3) {
-            Due.is("bid " + k / 3 + " of a new object", x.bid(bids[k], bids[k + 1], bids[k + 2]), k / 3);
-        }
-        return x;
-    }
-
-    /** Eight bids, bid b on item b alone with amount b + 1, two for each bidder. */
-    private static PackageAuction full() {
-        return with(1, 0, 1, 2, 1, 2, 4, 2, 3, 8, 3, 4, 16, 0, 5, 32, 1, 6, 64, 2, 7, 128, 3, 8);
-    }
-
     private static void promise1NewObject() {
         PackageAuction x = new PackageAuction();
         Due.is("1: bids", x.bids(), 0);
@@ -54,7 +35,7 @@ public final class PromisesTest {
         Due.is("1: revenue", x.revenue(), 0);
         Due.is("1: sold", x.sold(), 0);
         Due.is("1: allocation(0)", x.allocation(0), true);
-        PackageAuction other = with(1, 0, 5);
+        PackageAuction other = Auctions.with(1, 0, 5);
         other.withhold(3, true);
         Due.is("1: bids, another object has one", x.bids(), 0);
         Due.is("1: withheld, another object has one", x.withheld(), 0);
@@ -62,13 +43,13 @@ public final class PromisesTest {
 
     private static void promise2Bid() {
         PackageAuction x = new PackageAuction();
-        for (int bundle : NOT_1_TO_255) {
+        for (int bundle : Edges.notBundles()) {
             Due.is("2: bid with bundle " + bundle, x.bid(bundle, 0, 5), PackageAuction.BAD);
         }
-        for (int bidder : NOT_0_TO_3) {
+        for (int bidder : Edges.notBidders()) {
             Due.is("2: bid with bidder " + bidder, x.bid(1, bidder, 5), PackageAuction.BAD);
         }
-        for (int amount : NOT_1_TO_50) {
+        for (int amount : Edges.notAmounts()) {
             Due.is("2: bid with amount " + amount, x.bid(1, 0, amount), PackageAuction.BAD);
         }
         Due.is("2: bids after wrong ones", x.bids(), 0);
@@ -89,9 +70,9 @@ public final class PromisesTest {
     }
 
     private static void promise3Retract() {
-        PackageAuction x = with(1, 0, 5, 2, 1, 7, 4, 2, 9);
+        PackageAuction x = Auctions.with(1, 0, 5, 2, 1, 7, 4, 2, 9);
         Due.is("3: retract(3), no such bid", x.retract(3), false);
-        for (int b : NOT_0_TO_7) {
+        for (int b : Edges.notBidNumbers()) {
             Due.is("3: retract(" + b + ")", x.retract(b), false);
         }
         Due.is("3: bids unchanged", x.bids(), 7);
@@ -103,23 +84,23 @@ public final class PromisesTest {
         Due.is("3: the number is used again", x.bid(8, 3, 1), 1);
         Due.is("3: sold, of the new bid 1", x.sold(), 13);
         Due.is("3: revenue, of the new bid 1", x.revenue(), 15);
-        PackageAuction all = full();
+        PackageAuction all = Auctions.full();
         Due.is("3: retract(7)", all.retract(7), true);
         Due.is("3: retract(0)", all.retract(0), true);
         Due.is("3: bids of eight", all.bids(), 126);
     }
 
     private static void promise4Raise() {
-        PackageAuction x = with(1, 0, 5, 2, 1, 7);
+        PackageAuction x = Auctions.with(1, 0, 5, 2, 1, 7);
         Due.is("4: raise(0, 50)", x.raise(0, 50), true);
         Due.is("4: revenue", x.revenue(), 57);
         Due.is("4: raise(0, 1), which is less", x.raise(0, 1), true);
         Due.is("4: revenue", x.revenue(), 8);
         Due.is("4: raise(0, 1), the same", x.raise(0, 1), true);
-        for (int amount : NOT_1_TO_50) {
+        for (int amount : Edges.notAmounts()) {
             Due.is("4: raise(0, " + amount + ")", x.raise(0, amount), false);
         }
-        for (int b : NOT_0_TO_7) {
+        for (int b : Edges.notBidNumbers()) {
             Due.is("4: raise(" + b + ", 9)", x.raise(b, 9), false);
         }
         Due.is("4: raise(2, 9), no such bid", x.raise(2, 9), false);
@@ -133,8 +114,8 @@ public final class PromisesTest {
     }
 
     private static void promise5Withhold() {
-        PackageAuction x = with(3, 0, 5, 6, 1, 7);
-        for (int i : NOT_0_TO_7) {
+        PackageAuction x = Auctions.with(3, 0, 5, 6, 1, 7);
+        for (int i : Edges.notItems()) {
             Due.is("5: withhold(" + i + ", true)", x.withhold(i, true), false);
         }
         Due.is("5: withheld unchanged", x.withheld(), 0);
@@ -145,7 +126,7 @@ public final class PromisesTest {
         Due.is("5: withhold(0, true)", x.withhold(0, true), true);
         Due.is("5: winners, none left", x.winners(), 0);
         Due.is("5: bids stay", x.bids(), 3);
-        for (int i : NOT_0_TO_7) {
+        for (int i : Edges.notItems()) {
             Due.is("5: withhold(" + i + ", false)", x.withhold(i, false), false);
         }
         Due.is("5: withheld unchanged", x.withheld(), 5);
@@ -156,7 +137,7 @@ public final class PromisesTest {
     }
 
     private static void promise6Bids() {
-        PackageAuction x = full();
+        PackageAuction x = Auctions.full();
         Due.is("6: bids", x.bids(), 255);
         for (int b = 0; b < 8; b++) {
             x.retract(b);
@@ -180,34 +161,35 @@ public final class PromisesTest {
     }
 
     private static void promise8Winners() {
-        Due.is("8: one bid", with(255, 2, 1).winners(), 1);
-        Due.is("8: packages apart, bidders differ", with(1, 0, 5, 2, 1, 5).winners(), 3);
-        Due.is("8: an item in common", with(3, 0, 5, 6, 1, 6).winners(), 2);
-        Due.is("8: one bidder", with(1, 0, 5, 2, 0, 6).winners(), 2);
-        Due.is("8: two small ones before a large one", with(255, 0, 9, 15, 1, 5, 240, 2, 5).winners(), 6);
-        Due.is("8: a large one before two small ones", with(255, 0, 11, 15, 1, 5, 240, 2, 5).winners(), 1);
-        Due.is("8: eight bids, each bidder's better one", full().winners(), 240);
-        Due.is("8: four bidders with 50", with(3, 0, 50, 12, 1, 50, 48, 2, 50, 192, 3, 50).winners(), 15);
-        PackageAuction x = full();
+        Due.is("8: one bid", Auctions.with(255, 2, 1).winners(), 1);
+        Due.is("8: packages apart, bidders differ", Auctions.with(1, 0, 5, 2, 1, 5).winners(), 3);
+        Due.is("8: an item in common", Auctions.with(3, 0, 5, 6, 1, 6).winners(), 2);
+        Due.is("8: one bidder", Auctions.with(1, 0, 5, 2, 0, 6).winners(), 2);
+        Due.is("8: two small ones before a large one", Auctions.with(255, 0, 9, 15, 1, 5, 240, 2, 5).winners(), 6);
+        Due.is("8: a large one before two small ones", Auctions.with(255, 0, 11, 15, 1, 5, 240, 2, 5).winners(), 1);
+        Due.is("8: eight bids, each bidder's better one", Auctions.full().winners(), 240);
+        Due.is("8: four bidders with 50", Auctions.with(3, 0, 50, 12, 1, 50, 48, 2, 50, 192, 3, 50).winners(), 15);
+        PackageAuction x = Auctions.full();
         x.withhold(7, true);
         Due.is("8: bid 7 withheld", x.winners(), 8 + 16 + 32 + 64);
     }
 
     private static void promise8Ties() {
-        Due.is("8: {0} before {1}", with(1, 0, 5, 1, 1, 5).winners(), 1);
-        Due.is("8: {0} before {1, 2}", with(3, 0, 10, 1, 1, 5, 2, 2, 5).winners(), 1);
-        Due.is("8: {0, 1} before {2}", with(1, 1, 5, 2, 2, 5, 3, 0, 10).winners(), 3);
-        Due.is("8: {0, 3} before {1, 2}", with(1, 0, 5, 1, 1, 5, 2, 0, 5, 2, 1, 5).winners(), 9);
-        Due.is("8: {0, 2} before {1, 3}, one bidder each", with(1, 0, 5, 1, 0, 5, 2, 1, 5, 2, 1, 5).winners(), 5);
-        Due.is("8: {0, 1} before {0, 2}", with(1, 0, 5, 2, 1, 5, 2, 2, 5).winners(), 3);
+        Due.is("8: {0} before {1}", Auctions.with(1, 0, 5, 1, 1, 5).winners(), 1);
+        Due.is("8: {0} before {1, 2}", Auctions.with(3, 0, 10, 1, 1, 5, 2, 2, 5).winners(), 1);
+        Due.is("8: {0, 1} before {2}", Auctions.with(1, 1, 5, 2, 2, 5, 3, 0, 10).winners(), 3);
+        Due.is("8: {0, 3} before {1, 2}", Auctions.with(1, 0, 5, 1, 1, 5, 2, 0, 5, 2, 1, 5).winners(), 9);
+        Due.is("8: {0, 2} before {1, 3}, one bidder each",
+                Auctions.with(1, 0, 5, 1, 0, 5, 2, 1, 5, 2, 1, 5).winners(), 5);
+        Due.is("8: {0, 1} before {0, 2}", Auctions.with(1, 0, 5, 2, 1, 5, 2, 2, 5).winners(), 3);
         Due.is("8: {0, 3} before {0, 4, 5}",
-                with(1, 0, 5, 1, 0, 1, 1, 0, 1, 6, 1, 8, 2, 2, 4, 4, 3, 4).winners(), 9);
+                Auctions.with(1, 0, 5, 1, 0, 1, 1, 0, 1, 6, 1, 8, 2, 2, 4, 4, 3, 4).winners(), 9);
     }
 
     private static void promise9Revenue() {
-        Due.is("9: greatest", with(1, 0, 50, 2, 1, 50, 4, 2, 50, 8, 3, 50).revenue(), 200);
-        Due.is("9: eight bids", full().revenue(), 26);
-        PackageAuction x = with(3, 0, 5, 6, 1, 6);
+        Due.is("9: greatest", Auctions.with(1, 0, 50, 2, 1, 50, 4, 2, 50, 8, 3, 50).revenue(), 200);
+        Due.is("9: eight bids", Auctions.full().revenue(), 26);
+        PackageAuction x = Auctions.with(3, 0, 5, 6, 1, 6);
         Due.is("9: the better one", x.revenue(), 6);
         x.withhold(2, true);
         Due.is("9: the other one", x.revenue(), 5);
@@ -216,10 +198,10 @@ public final class PromisesTest {
     }
 
     private static void promise10Sold() {
-        Due.is("10: eight bids", full().sold(), 240);
-        Due.is("10: the loser's items aren't sold", with(3, 0, 5, 6, 1, 6).sold(), 6);
-        Due.is("10: two packages", with(129, 0, 5, 6, 1, 6).sold(), 135);
-        PackageAuction x = with(129, 0, 5, 6, 1, 6);
+        Due.is("10: eight bids", Auctions.full().sold(), 240);
+        Due.is("10: the loser's items aren't sold", Auctions.with(3, 0, 5, 6, 1, 6).sold(), 6);
+        Due.is("10: two packages", Auctions.with(129, 0, 5, 6, 1, 6).sold(), 135);
+        PackageAuction x = Auctions.with(129, 0, 5, 6, 1, 6);
         x.withhold(7, true);
         Due.is("10: item 7 withheld", x.sold(), 6);
         x.retract(1);
@@ -227,29 +209,29 @@ public final class PromisesTest {
     }
 
     private static void promise11RevenueWithout() {
-        PackageAuction x = full();
+        PackageAuction x = Auctions.full();
         Due.is("11: revenueWithout(0)", x.revenueWithout(0), 21);
         Due.is("11: revenueWithout(3)", x.revenueWithout(3), 18);
-        for (int bidder : NOT_0_TO_3) {
+        for (int bidder : Edges.notBidders()) {
             Due.is("11: revenueWithout(" + bidder + ")", x.revenueWithout(bidder), PackageAuction.NONE);
         }
         x.withhold(5, true);
         Due.is("11: revenueWithout(0), item 5 withheld", x.revenueWithout(0), 17);
-        PackageAuction y = with(3, 0, 10, 1, 1, 4, 2, 2, 5, 2, 0, 7);
+        PackageAuction y = Auctions.with(3, 0, 10, 1, 1, 4, 2, 2, 5, 2, 0, 7);
         Due.is("11: all of the bidder's bids are out", y.revenueWithout(0), 9);
         Due.is("11: a loser", y.revenueWithout(2), 11);
         Due.is("11: a bidder without bids", y.revenueWithout(3), 11);
         y.retract(1);
         Due.is("11: after retract", y.revenueWithout(0), 5);
-        Due.is("11: nothing else", with(1, 2, 5).revenueWithout(2), 0);
+        Due.is("11: nothing else", Auctions.with(1, 2, 5).revenueWithout(2), 0);
     }
 
     private static void promise12Payment() {
-        PackageAuction x = with(3, 0, 10, 1, 1, 4, 2, 2, 5);
+        PackageAuction x = Auctions.with(3, 0, 10, 1, 1, 4, 2, 2, 5);
         Due.is("12: the winner pays what the others would bring", x.payment(0), 9);
         Due.is("12: a loser", x.payment(1), 0);
         Due.is("12: a bidder without bids", x.payment(3), 0);
-        for (int bidder : NOT_0_TO_3) {
+        for (int bidder : Edges.notBidders()) {
             Due.is("12: payment(" + bidder + ")", x.payment(bidder), PackageAuction.NONE);
         }
         x.raise(0, 6);
@@ -259,18 +241,18 @@ public final class PromisesTest {
         x.withhold(0, true);
         Due.is("12: payment(2), alone", x.payment(2), 0);
         Due.is("12: payment(1), withheld", x.payment(1), 0);
-        Due.is("12: the bidder's other bid doesn't count", with(1, 0, 9, 1, 0, 8, 1, 1, 3).payment(0), 3);
-        Due.is("12: equal amounts", with(1, 0, 9, 1, 1, 9).payment(0), 9);
+        Due.is("12: the bidder's other bid doesn't count", Auctions.with(1, 0, 9, 1, 0, 8, 1, 1, 3).payment(0), 3);
+        Due.is("12: equal amounts", Auctions.with(1, 0, 9, 1, 1, 9).payment(0), 9);
     }
 
     private static void promise13Threshold() {
-        PackageAuction x = with(3, 0, 10, 1, 1, 4, 2, 2, 5);
+        PackageAuction x = Auctions.with(3, 0, 10, 1, 1, 4, 2, 2, 5);
         Due.is("13: a winner, first in ties", x.threshold(0), 9);
         Due.is("13: a loser, after in ties", x.threshold(1), 6);
         Due.is("13: the other loser", x.threshold(2), 7);
         Due.is("13: the amount stays", x.revenue(), 10);
         Due.is("13: no bid 3", x.threshold(3), PackageAuction.NONE);
-        for (int b : NOT_0_TO_7) {
+        for (int b : Edges.notBidNumbers()) {
             Due.is("13: threshold(" + b + ")", x.threshold(b), PackageAuction.NONE);
         }
         x.withhold(1, true);
@@ -279,29 +261,29 @@ public final class PromisesTest {
         Due.is("13: without rivals", x.threshold(1), 1);
         x.retract(1);
         Due.is("13: taken back", x.threshold(1), PackageAuction.NONE);
-        Due.is("13: wins with any amount", with(1, 0, 30, 2, 1, 50, 3, 2, 9).threshold(0), 1);
-        Due.is("13: the bidder's own other bid is a rival", with(1, 0, 9, 2, 0, 7).threshold(1), 10);
+        Due.is("13: wins with any amount", Auctions.with(1, 0, 30, 2, 1, 50, 3, 2, 9).threshold(0), 1);
+        Due.is("13: the bidder's own other bid is a rival", Auctions.with(1, 0, 9, 2, 0, 7).threshold(1), 10);
     }
 
     private static void promise13Ties() {
-        Due.is("13: 50, first in ties", with(1, 0, 9, 1, 1, 50).threshold(0), 50);
-        Due.is("13: 51, after in ties", with(1, 0, 50, 1, 1, 9).threshold(1), 51);
-        Due.is("13: 50, after in ties", with(1, 0, 49, 1, 1, 9).threshold(1), 50);
-        Due.is("13: far above 50", with(7, 0, 9, 1, 1, 50, 2, 2, 50, 4, 3, 50).threshold(0), 51);
-        Due.is("13: a partner is the least that differs", with(1, 1, 5, 3, 2, 12, 2, 0, 9).threshold(2), 7);
-        Due.is("13: the rival is the least that differs", with(3, 2, 12, 1, 1, 5, 2, 0, 9).threshold(2), 8);
-        Due.is("13: 1, just first in a tie", with(1, 1, 5, 3, 2, 6, 2, 0, 9).threshold(2), 1);
-        Due.is("13: 2, just after in a tie", with(3, 2, 6, 1, 1, 5, 2, 0, 9).threshold(2), 2);
-        Due.is("13: 1, just after in a tie with nothing", with(3, 2, 5, 1, 1, 5, 2, 0, 9).threshold(2), 1);
+        Due.is("13: 50, first in ties", Auctions.with(1, 0, 9, 1, 1, 50).threshold(0), 50);
+        Due.is("13: 51, after in ties", Auctions.with(1, 0, 50, 1, 1, 9).threshold(1), 51);
+        Due.is("13: 50, after in ties", Auctions.with(1, 0, 49, 1, 1, 9).threshold(1), 50);
+        Due.is("13: far above 50", Auctions.with(7, 0, 9, 1, 1, 50, 2, 2, 50, 4, 3, 50).threshold(0), 51);
+        Due.is("13: a partner is the least that differs", Auctions.with(1, 1, 5, 3, 2, 12, 2, 0, 9).threshold(2), 7);
+        Due.is("13: the rival is the least that differs", Auctions.with(3, 2, 12, 1, 1, 5, 2, 0, 9).threshold(2), 8);
+        Due.is("13: 1, just first in a tie", Auctions.with(1, 1, 5, 3, 2, 6, 2, 0, 9).threshold(2), 1);
+        Due.is("13: 2, just after in a tie", Auctions.with(3, 2, 6, 1, 1, 5, 2, 0, 9).threshold(2), 2);
+        Due.is("13: 1, just after in a tie with nothing", Auctions.with(3, 2, 5, 1, 1, 5, 2, 0, 9).threshold(2), 1);
     }
 
     private static void promise14RevenueWith() {
-        PackageAuction x = with(3, 0, 10, 1, 1, 4, 2, 2, 5, 4, 1, 20);
+        PackageAuction x = Auctions.with(3, 0, 10, 1, 1, 4, 2, 2, 5, 4, 1, 20);
         Due.is("14: a winner", x.revenueWith(0), 30);
         Due.is("14: a loser, its bidder's better bid is out", x.revenueWith(1), 9);
         Due.is("14: a loser with a partner", x.revenueWith(2), 25);
         Due.is("14: no bid 4", x.revenueWith(4), PackageAuction.NONE);
-        for (int b : NOT_0_TO_7) {
+        for (int b : Edges.notBidNumbers()) {
             Due.is("14: revenueWith(" + b + ")", x.revenueWith(b), PackageAuction.NONE);
         }
         x.withhold(1, true);
@@ -313,11 +295,11 @@ public final class PromisesTest {
     }
 
     private static void promise15Price() {
-        PackageAuction x = with(3, 0, 10, 1, 1, 4, 2, 2, 5);
+        PackageAuction x = Auctions.with(3, 0, 10, 1, 1, 4, 2, 2, 5);
         Due.is("15: price(0)", x.price(0), 5);
         Due.is("15: price(1)", x.price(1), 6);
         Due.is("15: nobody wants item 7", x.price(7), 0);
-        for (int i : NOT_0_TO_7) {
+        for (int i : Edges.notItems()) {
             Due.is("15: price(" + i + ")", x.price(i), PackageAuction.NONE);
         }
         Due.is("15: nothing gets withheld", x.withheld(), 0);
@@ -325,12 +307,12 @@ public final class PromisesTest {
         Due.is("15: already withheld", x.price(1), 0);
         Due.is("15: price(0), item 1 withheld", x.price(0), 4);
         Due.is("15: item 1 stays withheld", x.withheld(), 2);
-        Due.is("15: item 7", with(128, 0, 50).price(7), 50);
-        Due.is("15: an equal rival takes another item", with(1, 0, 9, 2, 0, 9).price(0), 0);
+        Due.is("15: item 7", Auctions.with(128, 0, 50).price(7), 50);
+        Due.is("15: an equal rival takes another item", Auctions.with(1, 0, 9, 2, 0, 9).price(0), 0);
     }
 
     private static void promise16Allocation() {
-        PackageAuction x = with(3, 0, 10, 12, 1, 4, 2, 2, 5, 48, 0, 20);
+        PackageAuction x = Auctions.with(3, 0, 10, 12, 1, 4, 2, 2, 5, 48, 0, 20);
         Due.is("16: no bids", x.allocation(0), true);
         Due.is("16: {0}", x.allocation(1), true);
         Due.is("16: {0, 1}", x.allocation(3), true);
@@ -353,7 +335,7 @@ public final class PromisesTest {
     }
 
     private static void promise17OrderAndLimits() {
-        PackageAuction x = full();
+        PackageAuction x = Auctions.full();
         Due.is("17: wrong bundle when full", x.bid(0, 0, 5), PackageAuction.BAD);
         Due.is("17: wrong bundle when full", x.bid(256, 0, 5), PackageAuction.BAD);
         Due.is("17: wrong bidder when full", x.bid(1, -1, 5), PackageAuction.BAD);
